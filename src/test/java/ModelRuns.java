@@ -339,14 +339,6 @@ public final class ModelRuns {
     // The model.
 
     private record Fraction(BigInteger above, BigInteger below) {
-        static Fraction of(BigInteger above, BigInteger below) {
-            BigInteger common = above.gcd(below);
-            if (below.signum() < 0) {
-                common = common.negate();
-            }
-            return new Fraction(above.divide(common), below.divide(common));
-        }
-
         static Fraction of(long whole) {
             return new Fraction(BigInteger.valueOf(whole), BigInteger.ONE);
         }
@@ -355,12 +347,20 @@ public final class ModelRuns {
             return minus(of(whole)).signum() == 0;
         }
 
+        Fraction inLeastTerms() {
+            BigInteger common = above.gcd(below);
+            if (below.signum() < 0) {
+                common = common.negate();
+            }
+            return new Fraction(above.divide(common), below.divide(common));
+        }
+
         int signum() {
-            return above.signum();
+            return above.signum() * below.signum();
         }
 
         Fraction plus(Fraction o) {
-            return of(above.multiply(o.below).add(o.above.multiply(below)), below.multiply(o.below));
+            return new Fraction(above.multiply(o.below).add(o.above.multiply(below)), below.multiply(o.below));
         }
 
         Fraction minus(Fraction o) {
@@ -368,11 +368,11 @@ public final class ModelRuns {
         }
 
         Fraction times(Fraction o) {
-            return of(above.multiply(o.above), below.multiply(o.below));
+            return new Fraction(above.multiply(o.above), below.multiply(o.below));
         }
 
         Fraction over(Fraction o) {
-            return of(above.multiply(o.below), below.multiply(o.above));
+            return new Fraction(above.multiply(o.below), below.multiply(o.above));
         }
     }
 
@@ -539,7 +539,7 @@ public final class ModelRuns {
         private Fraction meet(int line, int wall) {
             Fraction a = side(line, at(wall, 0, Fraction.of(0)), at(wall, 1, Fraction.of(0)));
             Fraction b = side(line, at(wall, 0, Fraction.of(1)), at(wall, 1, Fraction.of(1)));
-            Fraction q = a.over(a.minus(b));
+            Fraction q = a.over(a.minus(b)).inLeastTerms();
             if (sign(line, wall, q) != 0 || q.isWhole(0) || q.isWhole(1)) {
                 throw new IllegalStateException("the model is wrong");
             }
