@@ -530,7 +530,7 @@ public final class NodeMaker {
          */
         private static int sideBetween(long a, long b, long fromA, long fromB) {
             if (a >= 0 && b >= 0) {
-                return sideOf(a + b);
+                return a > 0 || b > 0 ? LEFT : ON;
             }
             if (a <= 0 && b <= 0) {
                 return RIGHT;
