@@ -356,6 +356,9 @@ public final class NodeMaker {
         private final Row homes = new Row();
         // The lists that still wait for their trees, one upon the other.
         private final Pieces waiting = new Pieces();
+        private final Row listStarts = new Row();
+        private final Row listParents = new Row();
+        private final Row listSides = new Row();
         private final Pieces leftList = new Pieces();
         private int height;
         // The tree is made only when it is asked for, as many walls may come and go before.
@@ -396,7 +399,14 @@ public final class NodeMaker {
                     waiting.add(i, NONE, NONE);
                 }
             }
-            plant(0, 0);
+            if (waiting.count() > 0) {
+                await(0, NONE, LEFT);
+            }
+            // Each turn makes a node, which has a piece at least.
+            for (int turn = 0; turn < MOST_PIECES && listStarts.count() > 0; turn++) {
+                plantNext();
+            }
+            countSizes();
             stale = false;
         }
 
@@ -410,32 +420,55 @@ public final class NodeMaker {
             pieces.shorten(0);
             homes.shorten(0);
             waiting.shorten(0);
+            listStarts.shorten(0);
+            listParents.shorten(0);
+            listSides.shorten(0);
             height = 0;
         }
 
-        /**
-         * Makes the tree of the list that waits from an index on, and takes that list away. All
-         * pieces on a node's line stay with the node, so no way down has more nodes than walls.
-         */
-        private int plant(int from, int depth) {
-            if (waiting.count() <= from || depth >= MOST_WALLS) {
-                waiting.shorten(from);
-                return NONE;
-            }
+        private void await(int from, int parent, int side) {
+            listStarts.add(from);
+            listParents.add(parent);
+            listSides.add(side);
+        }
+
+        /** Makes the first node of the uppermost list that waits, and leaves that node's lists waiting. */
+        private void plantNext() {
+            int top = listStarts.count() - 1;
+            int from = listStarts.at(top);
+            int parent = listParents.at(top);
             int k = lines.count();
+            if (listSides.at(top) == LEFT) {
+                lefts.set(parent, k);
+            } else {
+                rights.set(parent, k);
+            }
+            listStarts.shorten(top);
+            listParents.shorten(top);
+            listSides.shorten(top);
+            int depth = hasNode(parent) ? depths.at(parent) + 1 : 0;
             int line = bestLine(from);
             lines.add(line);
             depths.add(depth);
             firstPieces.add(pieces.count());
             lefts.add(NONE);
             rights.add(NONE);
-            sizes.add(0);
+            sizes.add(1);
             height = Math.max(height, depth + 1);
             int leftFrom = divide(from, line, k);
-            lefts.set(k, plant(leftFrom, depth + 1));
-            rights.set(k, plant(from, depth + 1));
-            sizes.set(k, lines.count() - k);
-            return k;
+            if (leftFrom > from) {
+                await(from, k, RIGHT);
+            }
+            if (waiting.count() > leftFrom) {
+                await(leftFrom, k, LEFT);
+            }
+        }
+
+        private void countSizes() {
+            // A node's trees bear greater numbers than it does, so theirs are known before its own.
+            for (int k = lines.count() - 1; k >= 0; k--) {
+                sizes.set(k, 1 + nodesIn(lefts.at(k)) + nodesIn(rights.at(k)));
+            }
         }
 
         private int bestLine(int from) {
@@ -654,6 +687,7 @@ public final class NodeMaker {
         int leafAround(int x, int y) {
             int before = 0;
             int k = 0;
+            // A node's own wall goes into neither of its trees, so no way down has more nodes than walls.
             for (int depth = 0; depth < MOST_WALLS && hasNode(k); depth++) {
                 int left = lefts.at(k);
                 if (liesLeft(k, x, y)) {

@@ -23,6 +23,8 @@ public final class ModelRuns {
             pencil(new Dice(6000 + seed));
             grid(new Dice(7000 + seed));
         }
+        manyCuts(new Dice(8000), 0);
+        manyCuts(new Dice(8001), 3);
         polygon(64, 1);
         polygon(64, -1);
         polygon(17, 1);
@@ -134,6 +136,20 @@ public final class ModelRuns {
             pair.put(x, y, lies ? x + length : x, lies ? y : y + length);
         }
         pair.compare(dice, 50);
+    }
+
+    /** Of 33 walls that lie three cut all 31 that stand, as those that stand are not among the first 16. */
+    private static void manyCuts(Dice dice, int shift) {
+        Pair pair = new Pair();
+        for (int i = 0; i < 33; i++) {
+            int y = 1000 * ((2 * i) % 33) - 16000;
+            pair.put(-32768, y, 30000, y + dice.around(shift));
+        }
+        for (int i = 0; i < 31; i++) {
+            int x = 30100 + 80 * i;
+            pair.put(x, -32768 + dice.below(99), x + dice.around(shift), 32767 - dice.below(99));
+        }
+        pair.compare(dice, 32768);
     }
 
     private static void polygon(int corners, int turn) {
