@@ -512,6 +512,12 @@ public final class BoundaryTests {
         due("node(.., 0)", nodes(x, 0), 1, 0, 2, 5, 3, 2, 4);
         due("look(5)", x.look(5), 1);
         due("node(1, 2)", x.node(1, 2), -1);
+        // The same from the other side of that line.
+        NodeMaker back = with(
+            w(1, 6, 1, 5), w(5, 3, 8, 5), w(0, 0, 3, 1), w(6, 1, 6, 3), w(9, 2, 9, 4), w(-9, 9, -9, 10));
+        due("node(.., 0)", nodes(back, 0), 1, 0, 2, 5, 3, 2, 4);
+        due("look(5)", back.look(5), 1);
+        due("node(1, 1)", back.node(1, 1), -1);
     }
 
     private static void firstAndSecond() {
