@@ -6,7 +6,8 @@ import java.util.function.ToLongFunction;
 
 /**
  * One test for each sentence of the document that names a boundary: too small, too large, empty, full,
- * a refused call. Each prints its sentence if it does not hold; the answers are worked out by hand.
+ * a refused call. Each prints its sentence if it does not hold. The answers are worked out by hand, but
+ * under "What stays": there an object is compared with one that had the same walls from the start.
  */
 public final class BoundaryTests {
     private static final int LEAST = -32768;
