@@ -7,6 +7,7 @@ import java.nio.file.Path;
 import java.util.Arrays;
 import java.util.Set;
 import java.util.TreeSet;
+import java.util.regex.Matcher;
 import java.util.regex.Pattern;
 
 /** The public face of the document, and those rules of LANGUAGE.md that can be read off the class and its text. */
@@ -18,6 +19,8 @@ public final class FaceTest {
     private static final String[] FORBIDDEN = {
         "throw", "throws", "try", "catch", "synchronized", "assert", "protected", "package", "->", "::"
     };
+    // Of the library that rule 4 leaves, what the class uses.
+    private static final Set<String> LIBRARY = Set.of("Arrays.copyOf", "Math.abs", "Math.max", "Math.min");
 
     private static int wrong = 0;
 
@@ -52,6 +55,7 @@ public final class FaceTest {
             int m = inside.getModifiers();
             must(Modifier.isStatic(m) && !Modifier.isPublic(m), inside + " is public or not static");
             must(inside.getDeclaredFields().length <= 20, inside + " has too many fields");
+            checkMethodsInside(inside);
         }
         must(NodeMaker.class.getDeclaredClasses().length <= 12, "there are too many classes");
     }
@@ -73,6 +77,15 @@ public final class FaceTest {
         }
     }
 
+    private static void checkMethodsInside(Class<?> inside) {
+        for (Method m : inside.getDeclaredMethods()) {
+            must(m.getParameterCount() <= 7, m + " takes too many parameters");
+            String call = " " + m.getName() + "(";
+            boolean namedAsOneOfTheFace = FACE.stream().anyMatch(f -> f.contains(call));
+            must(!Modifier.isPrivate(m.getModifiers()) || !namedAsOneOfTheFace, m + " bears the name of a public one");
+        }
+    }
+
     private static void checkFields() throws Exception {
         for (Field f : NodeMaker.class.getDeclaredFields()) {
             must(isHidden(f) || f.getName().equals("NONE"), f + " is not private");
@@ -89,5 +102,10 @@ public final class FaceTest {
             String border = Character.isLetter(word.charAt(0)) ? "\\b" : "";
             must(!Pattern.compile(border + Pattern.quote(word) + border).matcher(code).find(), "the text has: " + word);
         }
+        Matcher call = Pattern.compile("\\b[A-Z]\\w*\\.\\w+(?=\\()").matcher(code);
+        while (call.find()) {
+            must(LIBRARY.contains(call.group()), "the text calls: " + call.group());
+        }
+        must(code.lines().filter(l -> l.startsWith("import")).allMatch("import java.util.Arrays;"::equals), "other imports");
     }
 }
